@@ -317,6 +317,20 @@ public final class PromiseTest {
         x.off(1, 200000, 200000);
         due(x, "bounds and one tie", x.ahead(1, 2), NO, 4);
         due("one: a bound is no tie", x.quarrel(), 1);
+        x = onePictureEach(3);
+        x.off(2, 200000, 200000);
+        due(x, "upper bound of camera 1", x.ahead(2, 1), NO, 4);
+        due("one", x.quarrel(), 1);
+        x.untie(0);
+        x.off(2, -200000, -200000);
+        due(x, "lower bound of camera 1", x.ahead(1, 2), NO, 4);
+        due("one", x.quarrel(), 1);
+        x = onePictureEach(3);
+        x.off(1, -5, 5);
+        x.ahead(1, 2);
+        x.off(2, -100, 5);
+        due(x, "touches one tie, quarrels with two", x.off(1, 5, 9), NO, 4);
+        due("two", x.quarrel(), 2);
         x = onePictureEach(2);
         x.picture(0, 0, 0, NO);
         x.picture(1, 100000, 0, NO);
@@ -582,6 +596,15 @@ public final class PromiseTest {
         x.put();
         due("one picture", x.bursts(), 0);
         due("none", x.longest(), 0);
+        PictureHeap y = withCameras(1);
+        y.picture(0, 0, 0, NO);
+        y.picture(0, 3, 0, NO);
+        y.put();
+        due("three minutes", y.bursts(), 0);
+        y.picture(0, 5, 0, NO);
+        y.put();
+        due("two minutes", y.bursts(), 1);
+        due("two pictures", y.longest(), 2);
         x.picture(0, 2, 0b0011, NO);
         x.picture(0, 4, 0b1111, NO);
         x.picture(1, 3, 0b1111, NO);
@@ -666,6 +689,11 @@ public final class PromiseTest {
         due("a new place is no way off", x.found(), 1);
         x.way(0, 3, 11);
         due("now it is a way off", x.found(), 2);
+        PictureHeap y = withCameras(1);
+        y.picture(0, 0, 0, NO);
+        due("no place", y.found(), 0);
+        y.place();
+        due("the only place", y.found(), 1);
         about = "29 strange";
         due("first", x.strange(), 0);
         due("mended", x.way(2, 0, 19), true);
@@ -728,6 +756,80 @@ public final class PromiseTest {
         due("none such", x.trouble(), 1);
         x.gap(5);
         due("it wasn't", x.trouble(), 0);
+        x.off(0, 0, 0);
+        x.gap(0);
+        x.idle(0);
+        due("idle that wasn't", x.trouble(), 0);
+        x.gap(0);
+        x.untie(0);
+        due("untie that wasn't", x.trouble(), 0);
+        x.gap(0);
+        x.camera();
+        due("camera that wasn't", x.trouble(), 0);
+        x.gap(0);
+        x.place();
+        due("place that wasn't", x.trouble(), 0);
+        x.gap(0);
+        x.place();
+        x.gap(0);
+        x.way(0, 1, 4);
+        due("way that wasn't", x.trouble(), 0);
+        x.gap(0);
+        x.picture(0, 0, 0, 0);
+        due("picture that wasn't", x.trouble(), 0);
+    }
+
+    /** All rooms full, and every call that goes over them. */
+    private static void full() {
+        about = "full";
+        PictureHeap x = withCameras(8);
+        for (int i = 0; i < 10; i++) {
+            x.place();
+        }
+        for (int i = 0; i < 120; i++) {
+            due("picture", x.picture(i % 8, i, 1 + i, NO), i);
+        }
+        for (int i = 0; i < 60; i++) {
+            due("near", x.near(i, i + 1, 1), i);
+        }
+        due("count(3)", x.count(3), 60);
+        due("put", x.put(), 120);
+        due("row", x.row(119), 119);
+        dueThrow("full", x, 120);
+        due("time", x.time(119), 119);
+        due("days", x.days(), 1);
+        due("day", x.day(0, 1), 120);
+        due("day", x.day(0, 2), 119);
+        due("bursts", x.bursts(), 0);
+        due("longest", x.longest(), 0);
+        due("doubles", x.doubles(), 0);
+        due("found", x.found(), 0);
+        due("strange", x.strange(), -2);
+        due("can", x.can(119), 1023);
+        due("idle", x.idle(59), 1);
+        due("each is at most the one ahead, and 0 at most the last", x.known(), 8);
+        due("least", x.range(7, false), 0);
+        due("greatest", x.range(7, true), 0);
+        due("untie", x.untie(59), true);
+        due(x, "off", x.off(7, 1, 1), NO, 4);
+        due("one tie for each step", x.quarrel(), 7);
+        due(x, "off", x.off(7, 3, 3), NO, 4);
+        due("the tie that closes the ring", x.quarrel(), 1);
+        due("sure ones of one camera", x.order(0, 112), 1);
+    }
+
+    /** Rooms that are not taken yet count for nothing. */
+    private static void emptyRooms() {
+        about = "27 can, rooms not taken";
+        PictureHeap x = withCameras(1);
+        x.place();
+        x.place();
+        x.way(0, 1, 10);
+        x.picture(0, 5, 0, NO);
+        due("nothing known", x.can(0), 3);
+        x.picture(0, 0, 0, 1);
+        due("known now", x.can(0), 2);
+        due("strange", x.strange(), -2);
     }
 
     public static void main(String[] args) {
@@ -754,6 +856,8 @@ public final class PromiseTest {
         places();
         counts();
         troubles();
+        full();
+        emptyRooms();
         System.out.println(wrong == 0 ? "all answers are as due" : wrong + " answers are not as due");
         if (wrong != 0) {
             System.exit(1);
