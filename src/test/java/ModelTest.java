@@ -10,6 +10,9 @@ import java.util.Random;
  */
 public final class ModelTest {
     private static final int THROWS = Integer.MIN_VALUE;
+    /** What later calls answer is free. */
+    private static final int MOST_CALLS = 512;
+    private static final int CALLS_OF_A_TURN = 30;
     private static int wrong = 0;
     private static long asked = 0;
     private static final long[] quarrelsSeen = new long[9];
@@ -454,6 +457,7 @@ public final class ModelTest {
         final PictureHeap x = new PictureHeap();
         final Model m = new Model();
         final StringBuilder told = new StringBuilder();
+        int calls = 0;
 
         Run(int number, Style style) {
             this.number = number;
@@ -463,6 +467,7 @@ public final class ModelTest {
 
         void due(String call, int got, int want) {
             asked++;
+            calls++;
             told.append(call).append(" = ").append(got == THROWS ? "throws" : got).append('\n');
             if (got != want) {
                 wrong++;
@@ -617,7 +622,7 @@ public final class ModelTest {
 
         void go() {
             start();
-            for (int turn = 0; turn < 60 && wrong < 10; turn++) {
+            for (int turn = 0; turn < 60 && calls <= MOST_CALLS - CALLS_OF_A_TURN && wrong < 10; turn++) {
                 change();
                 if (r.nextInt(4) == 0) {
                     askTies();
