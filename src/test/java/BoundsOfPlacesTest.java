@@ -375,16 +375,11 @@ public final class BoundsOfPlacesTest {
 
     static void questionsChangeNothing() {
         Due.sentence("Promises 27 to 31", "---- places");
-        Due.Made made = () -> {
-            PictureHeap x = Heaps.some();
-            x.gap(0);
-            return x;
-        };
-        Due.changesNothing(made, "can", x -> x.can(1) + x.can(9));
-        Due.changesNothing(made, "found", x -> x.found());
-        Due.changesNothing(made, "strange", x -> x.strange());
-        Due.changesNothing(made, "count", x -> x.count(1) + x.count(9));
-        Due.changesNothing(made, "trouble", x -> x.trouble());
+        Due.changesNothing(Heaps::someInTrouble, "can", x -> x.can(1) + x.can(9));
+        Due.changesNothing(Heaps::someInTrouble, "found", x -> x.found());
+        Due.changesNothing(Heaps::someInTrouble, "strange", x -> x.strange());
+        Due.changesNothing(Heaps::someInTrouble, "count", x -> x.count(1) + x.count(9));
+        Due.changesNothing(Heaps::someInTrouble, "trouble", x -> x.trouble());
     }
 
     public static void main(String[] args) throws Exception {

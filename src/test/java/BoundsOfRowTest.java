@@ -215,6 +215,12 @@ public final class BoundsOfRowTest {
             x.picture(camera, 50, 0, -1);
         }
         dueRow(x, 2, 5, 1, 4, 0, 3);
+        dueRow(Heaps.onePictureEach(8), 0, 1, 2, 3, 4, 5, 6, 7);
+        x = Heaps.cameras(3);
+        for (int camera : new int[] {0, 1, 2, 1, 0, 2}) {
+            x.picture(camera, 50, 0, -1);
+        }
+        dueRow(x, 0, 4, 1, 3, 2, 5);
         x = Heaps.cameras(2);
         x.picture(1, 40, 0, -1);
         x.picture(0, 50, 0, -1);
@@ -338,6 +344,15 @@ public final class BoundsOfRowTest {
         dueDay(x, 1, NO, NO, NO);
     }
 
+    static void promise23PlaceInTheRowNotNumber() {
+        Due.sentence("Promise 23", "what 0 its first PICTURE's place in the ROW, 1 how many");
+        PictureHeap x = Heaps.clocks(5000, 4999, 100, 99, 0);
+        x.put();
+        Due.due("days()", x.days(), 2);
+        dueDay(x, 0, 0, 3, 100);
+        dueDay(x, 1, 3, 2, 1);
+    }
+
     static void promise23NoSuchDay() {
         Due.sentence("Promise 23", "NONE");
         PictureHeap x = Heaps.clocks(0, 361, 722);
@@ -457,6 +472,12 @@ public final class BoundsOfRowTest {
         dueBursts(marked(new int[][] {{10, 0}, {11, 3}, {12, 15}, {13, 63}}), 1, 4);
         dueBursts(marked(new int[][] {{10, 0}, {11, 3}, {12, 31}, {13, 63}}), 2, 2);
         dueBursts(marked(new int[][] {{10, 0}, {11, 0}}), 1, 2);
+    }
+
+    static void promise24AsLongAsMayBe() {
+        Due.sentence("Terms III", "BURSTS: .. as long as may be");
+        dueBursts(marked(new int[][] {{10, 1}, {11, 1}, {12, 1}, {13, 1}}), 1, 4);
+        dueBursts(marked(new int[][] {{10, 1}, {12, 1}, {14, 1}, {17, 1}}), 1, 3);
     }
 
     static void promise24EachTheNextOfItsCamera() {
@@ -598,19 +619,14 @@ public final class BoundsOfRowTest {
 
     static void questionsChangeNothing() {
         Due.sentence("Promises 19 to 26", "---- put right");
-        Due.Made made = () -> {
-            PictureHeap x = Heaps.some();
-            x.gap(0);
-            return x;
-        };
-        Due.changesNothing(made, "offset", x -> x.offset(1) + x.offset(9));
-        Due.changesNothing(made, "row", x -> Due.rowOf(x, 1) + Due.rowOf(x, 9));
-        Due.changesNothing(made, "time", x -> x.time(1) + x.time(9));
-        Due.changesNothing(made, "days", x -> x.days());
-        Due.changesNothing(made, "day", x -> x.day(0, 1) + x.day(9, 9));
-        Due.changesNothing(made, "bursts", x -> x.bursts());
-        Due.changesNothing(made, "longest", x -> x.longest());
-        Due.changesNothing(made, "doubles", x -> x.doubles());
+        Due.changesNothing(Heaps::someInTrouble, "offset", x -> x.offset(1) + x.offset(9));
+        Due.changesNothing(Heaps::someInTrouble, "row", x -> Due.rowOf(x, 1) + Due.rowOf(x, 9));
+        Due.changesNothing(Heaps::someInTrouble, "time", x -> x.time(1) + x.time(9));
+        Due.changesNothing(Heaps::someInTrouble, "days", x -> x.days());
+        Due.changesNothing(Heaps::someInTrouble, "day", x -> x.day(0, 1) + x.day(9, 9));
+        Due.changesNothing(Heaps::someInTrouble, "bursts", x -> x.bursts());
+        Due.changesNothing(Heaps::someInTrouble, "longest", x -> x.longest());
+        Due.changesNothing(Heaps::someInTrouble, "doubles", x -> x.doubles());
     }
 
     static void promise18LeavesTiesAndTrouble() {

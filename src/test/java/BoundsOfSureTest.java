@@ -3,11 +3,6 @@ public final class BoundsOfSureTest {
     private static final int NO = Due.NO;
     private static final int UNKNOWN = Due.UNKNOWN;
 
-    private static void dueRange(PictureHeap x, int camera, int least, int greatest) {
-        Due.due("range(" + camera + ", false)", x.range(camera, false), least);
-        Due.due("range(" + camera + ", true)", x.range(camera, true), greatest);
-    }
-
     private static void dueBetween(PictureHeap x, int one, int other, int least, int most) {
         String two = "between(" + one + ", " + other;
         Due.due(two + ", false)", x.between(one, other, false), least);
@@ -20,38 +15,38 @@ public final class BoundsOfSureTest {
         PictureHeap some = Heaps.some();
         PictureHeap all = Heaps.cameras(8);
         for (int nobody : Due.NOBODY) {
-            dueRange(none, nobody, UNKNOWN, UNKNOWN);
-            dueRange(some, nobody, UNKNOWN, UNKNOWN);
-            dueRange(all, nobody, UNKNOWN, UNKNOWN);
+            Due.range(none, nobody, UNKNOWN, UNKNOWN);
+            Due.range(some, nobody, UNKNOWN, UNKNOWN);
+            Due.range(all, nobody, UNKNOWN, UNKNOWN);
         }
-        dueRange(none, 0, UNKNOWN, UNKNOWN);
-        dueRange(some, 3, UNKNOWN, UNKNOWN);
-        dueRange(all, 8, UNKNOWN, UNKNOWN);
+        Due.range(none, 0, UNKNOWN, UNKNOWN);
+        Due.range(some, 3, UNKNOWN, UNKNOWN);
+        Due.range(all, 8, UNKNOWN, UNKNOWN);
     }
 
     static void promise13OfCamera0() {
         Due.sentence("Terms II", "CAMERA 0 has OFFSET 0");
-        dueRange(Heaps.cameras(1), 0, 0, 0);
-        dueRange(Heaps.some(), 0, 0, 0);
+        Due.range(Heaps.cameras(1), 0, 0, 0);
+        Due.range(Heaps.some(), 0, 0, 0);
         PictureHeap x = Heaps.onePictureEach(2);
         x.ahead(0, 1);
-        dueRange(x, 0, 0, 0);
+        Due.range(x, 0, 0, 0);
         x.untie(0);
-        dueRange(x, 0, 0, 0);
+        Due.range(x, 0, 0, 0);
     }
 
     static void promise13UntiedIsTheBounds() {
         Due.sentence("Terms I", "OFFSETS -200,000 .. 200,000");
         PictureHeap x = Heaps.cameras(8);
         for (int camera = 1; camera < 8; camera++) {
-            dueRange(x, camera, -200000, 200000);
+            Due.range(x, camera, -200000, 200000);
         }
         x = Heaps.full();
         for (int tie = 0; tie < 60; tie++) {
             x.untie(tie);
         }
         for (int camera = 1; camera < 8; camera++) {
-            dueRange(x, camera, -200000, 200000);
+            Due.range(x, camera, -200000, 200000);
         }
     }
 
@@ -59,13 +54,13 @@ public final class BoundsOfSureTest {
         Due.sentence("Promise 13", "RANGE of a CAMERA: its least (or greatest) OFFSET");
         PictureHeap x = Heaps.cameras(2);
         x.off(1, -200000, -199999);
-        dueRange(x, 1, -200000, -199999);
+        Due.range(x, 1, -200000, -199999);
         x.untie(0);
         x.off(1, 199999, 200000);
-        dueRange(x, 1, 199999, 200000);
+        Due.range(x, 1, 199999, 200000);
         x.untie(1);
         x.off(1, -1, -1);
-        dueRange(x, 1, -1, -1);
+        Due.range(x, 1, -1, -1);
     }
 
     static void promise13AmongThoseThatAgree() {
@@ -75,13 +70,13 @@ public final class BoundsOfSureTest {
             x.ahead(i, i + 1);
         }
         for (int camera = 1; camera < 8; camera++) {
-            dueRange(x, camera, -200000 + camera - 1, 200000 - (7 - camera));
+            Due.range(x, camera, -200000 + camera - 1, 200000 - (7 - camera));
         }
         x.off(4, 10, 10);
-        dueRange(x, 1, -200000, 7);
-        dueRange(x, 3, -199998, 9);
-        dueRange(x, 5, 11, 199998);
-        dueRange(x, 7, 13, 200000);
+        Due.range(x, 1, -200000, 7);
+        Due.range(x, 3, -199998, 9);
+        Due.range(x, 5, 11, 199998);
+        Due.range(x, 7, 13, 200000);
     }
 
     static void promise13WidestChain() {
@@ -92,10 +87,10 @@ public final class BoundsOfSureTest {
             x.picture(camera, 100000, 0, -1);
         }
         x.ahead(1, 2);
-        dueRange(x, 1, 100001, 200000);
+        Due.range(x, 1, 100001, 200000);
         x.near(3, 4, 10000);
-        dueRange(x, 2, 190001, 200000);
-        dueRange(x, 1, 100001, 110000);
+        Due.range(x, 2, 190001, 200000);
+        Due.range(x, 1, 100001, 110000);
         Due.due("ahead(5, 6): beyond 200,000", x.ahead(5, 6), NO);
         Due.due("quarrel(): the three limits need two ties", x.quarrel(), 2);
     }
@@ -285,18 +280,13 @@ public final class BoundsOfSureTest {
 
     static void questionsChangeNothing() {
         Due.sentence("Promises 13 to 17", "---- what is sure");
-        Due.Made made = () -> {
-            PictureHeap x = Heaps.some();
-            x.gap(0);
-            return x;
-        };
-        Due.changesNothing(made, "range", x -> x.range(1, true) + x.range(9, false));
-        Due.changesNothing(made, "between", x -> x.between(0, 3, true) + x.between(9, 0, false));
-        Due.changesNothing(made, "order", x -> x.order(0, 3) + x.order(9, 0));
-        Due.changesNothing(made, "unsure", x -> x.unsure());
-        Due.changesNothing(made, "known", x -> x.known());
-        Due.changesNothing(made, "quarrel", x -> x.quarrel());
-        Due.changesNothing(made, "trouble", x -> x.trouble());
+        Due.changesNothing(Heaps::someInTrouble, "range", x -> x.range(1, true) + x.range(9, false));
+        Due.changesNothing(Heaps::someInTrouble, "between", x -> x.between(0, 3, true) + x.between(9, 0, false));
+        Due.changesNothing(Heaps::someInTrouble, "order", x -> x.order(0, 3) + x.order(9, 0));
+        Due.changesNothing(Heaps::someInTrouble, "unsure", x -> x.unsure());
+        Due.changesNothing(Heaps::someInTrouble, "known", x -> x.known());
+        Due.changesNothing(Heaps::someInTrouble, "quarrel", x -> x.quarrel());
+        Due.changesNothing(Heaps::someInTrouble, "trouble", x -> x.trouble());
     }
 
     public static void main(String[] args) throws Exception {

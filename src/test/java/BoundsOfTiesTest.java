@@ -20,11 +20,6 @@ public final class BoundsOfTiesTest {
         return x;
     }
 
-    private static void dueRange(PictureHeap x, int camera, int least, int greatest) {
-        Due.due("range(" + camera + ", false)", x.range(camera, false), least);
-        Due.due("range(" + camera + ", true)", x.range(camera, true), greatest);
-    }
-
     /** Refused by 4, with its quarrel; all but quarrel() is left as it was. */
     private static void quarrels(Due.Made made, int quarrel, String call, Due.Number told) {
         Due.refused(made, 4, call, told);
@@ -37,36 +32,36 @@ public final class BoundsOfTiesTest {
         Due.sentence("Promise 7", "A TIE NEAR: its number (0 .. 10,000)");
         PictureHeap x = two();
         Due.taken(x, "near(0, 1, 0)", x.near(0, 1, 0), 0);
-        dueRange(x, 1, 0, 0);
+        Due.range(x, 1, 0, 0);
     }
 
     static void promise07Takes10000Minutes() {
         Due.sentence("Promise 7", "A TIE NEAR: its number (0 .. 10,000)");
         PictureHeap x = two();
         Due.taken(x, "near(0, 1, 10000)", x.near(0, 1, 10000), 0);
-        dueRange(x, 1, -10000, 10000);
+        Due.range(x, 1, -10000, 10000);
         Due.taken(x, "near(0, 1, 9999)", x.near(0, 1, 9999), 1);
-        dueRange(x, 1, -9999, 9999);
+        Due.range(x, 1, -9999, 9999);
     }
 
     static void promise07WidestClocks() {
         Due.sentence("Promise 7", "A TIE NEAR: its number");
         PictureHeap x = widest();
         Due.taken(x, "near(0, 3, 10000)", x.near(0, 3, 10000), 0);
-        dueRange(x, 1, -110000, -90000);
+        Due.range(x, 1, -110000, -90000);
         x = widest();
         Due.taken(x, "near(1, 2, 10000)", x.near(1, 2, 10000), 0);
-        dueRange(x, 1, 90000, 110000);
+        Due.range(x, 1, 90000, 110000);
     }
 
     static void promise07EitherPictureFirst() {
         Due.sentence("Terms II", "NEAR: the TIMES of two PICTURES are no more than so many minutes apart");
         PictureHeap x = two();
         Due.taken(x, "near(0, 2, 30)", x.near(0, 2, 30), 0);
-        dueRange(x, 1, -130, -70);
+        Due.range(x, 1, -130, -70);
         x = two();
         Due.taken(x, "near(2, 0, 30)", x.near(2, 0, 30), 0);
-        dueRange(x, 1, -130, -70);
+        Due.range(x, 1, -130, -70);
     }
 
     static void promise07JustSoManyMinutesApart() {
@@ -91,7 +86,7 @@ public final class BoundsOfTiesTest {
         Due.taken(x, "near(2, 1, 100), 100 apart", x.near(2, 1, 100), 1);
         Due.taken(x, "near(1, 3, 0), of one clock", x.near(1, 3, 0), 2);
         Due.taken(x, "near(1, 1, 0), of one picture", x.near(1, 1, 0), 3);
-        dueRange(x, 1, -200000, 200000);
+        Due.range(x, 1, -200000, 200000);
     }
 
     static void promise07NoSuchPicture() {
@@ -225,17 +220,17 @@ public final class BoundsOfTiesTest {
         Due.sentence("Terms II", "AHEAD: that of the first is less than that of the second");
         PictureHeap x = two();
         Due.taken(x, "ahead(0, 1)", x.ahead(0, 1), 0);
-        dueRange(x, 1, 1, 200000);
+        Due.range(x, 1, 1, 200000);
         quarrels(() -> {
             PictureHeap y = two();
             y.ahead(0, 1);
             return y;
         }, 1, "near(0, 1, 0) of one that is ahead", y -> y.near(0, 1, 0));
         Due.taken(x, "near(0, 1, 1)", x.near(0, 1, 1), 1);
-        dueRange(x, 1, 1, 1);
+        Due.range(x, 1, 1, 1);
         x = two();
         Due.taken(x, "ahead(1, 0)", x.ahead(1, 0), 0);
-        dueRange(x, 1, -200000, -1);
+        Due.range(x, 1, -200000, -1);
     }
 
     static void promise08OfLikeTimes() {
@@ -254,13 +249,13 @@ public final class BoundsOfTiesTest {
         Due.sentence("Promise 8", "A TIE AHEAD: its number");
         PictureHeap x = widest();
         Due.taken(x, "ahead(1, 2)", x.ahead(1, 2), 0);
-        dueRange(x, 1, 100001, 200000);
+        Due.range(x, 1, 100001, 200000);
         x = widest();
         Due.taken(x, "ahead(2, 1)", x.ahead(2, 1), 0);
-        dueRange(x, 1, -200000, 99999);
+        Due.range(x, 1, -200000, 99999);
         x = widest();
         Due.taken(x, "ahead(3, 0)", x.ahead(3, 0), 0);
-        dueRange(x, 1, -200000, -100001);
+        Due.range(x, 1, -200000, -100001);
     }
 
     static void promise08OfOneCamera() {
@@ -275,7 +270,7 @@ public final class BoundsOfTiesTest {
         Due.due("ahead(1, 0)", x.ahead(1, 0), NO);
         x = two();
         Due.taken(x, "ahead(1, 2)", x.ahead(1, 2), 0);
-        dueRange(x, 1, -200000, 200000);
+        Due.range(x, 1, -200000, 200000);
     }
 
     static void promise08NoSuchPicture() {
@@ -304,9 +299,9 @@ public final class BoundsOfTiesTest {
         Due.sentence("Promise 9", "A TIE OFF (low to high, in -200,000 .. 200,000): its number");
         PictureHeap x = Heaps.cameras(2);
         Due.taken(x, "off(1, -200000, 200000)", x.off(1, -200000, 200000), 0);
-        dueRange(x, 1, -200000, 200000);
+        Due.range(x, 1, -200000, 200000);
         Due.taken(x, "off(1, -199999, 199999)", x.off(1, -199999, 199999), 1);
-        dueRange(x, 1, -199999, 199999);
+        Due.range(x, 1, -199999, 199999);
     }
 
     static void promise09OneNumber() {
@@ -314,7 +309,7 @@ public final class BoundsOfTiesTest {
         for (int one : new int[] {-200000, -1, 0, 1, 200000}) {
             PictureHeap x = Heaps.cameras(2);
             Due.taken(x, "off(1, " + one + ", " + one + ")", x.off(1, one, one), 0);
-            dueRange(x, 1, one, one);
+            Due.range(x, 1, one, one);
         }
     }
 
@@ -322,14 +317,14 @@ public final class BoundsOfTiesTest {
         Due.sentence("Terms II", "OFF: a CAMERA's OFFSET is from one number up to another");
         PictureHeap x = Heaps.cameras(2);
         x.off(1, -7, 9);
-        dueRange(x, 1, -7, 9);
+        Due.range(x, 1, -7, 9);
         Due.due("off(1, 10, 10)", x.off(1, 10, 10), NO);
         Due.due("off(1, -8, -8)", x.off(1, -8, -8), NO);
         Due.taken(x, "off(1, 9, 10)", x.off(1, 9, 10), 1);
-        dueRange(x, 1, 9, 9);
+        Due.range(x, 1, 9, 9);
         x.untie(1);
         Due.taken(x, "off(1, -8, -7)", x.off(1, -8, -7), 2);
-        dueRange(x, 1, -7, -7);
+        Due.range(x, 1, -7, -7);
     }
 
     static void promise09ANumber() {
@@ -375,8 +370,25 @@ public final class BoundsOfTiesTest {
         for (int[] held : new int[][] {{0, 0}, {0, 5}, {-5, 0}, {-200000, 200000}}) {
             PictureHeap x = Heaps.cameras(1);
             Due.taken(x, "off(0, " + held[0] + ", " + held[1] + ")", x.off(0, held[0], held[1]), 0);
-            dueRange(x, 0, 0, 0);
+            Due.range(x, 0, 0, 0);
         }
+    }
+
+    static void promise09Quarrels() {
+        Due.sentence("Promise 9", "NONE: 4");
+        Due.Made made = () -> {
+            PictureHeap x = Heaps.onePictureEach(2);
+            x.near(0, 1, 10);
+            return x;
+        };
+        quarrels(made, 1, "off(1, 11, 11)", x -> x.off(1, 11, 11));
+        quarrels(made, 1, "off(1, 11, 200000)", x -> x.off(1, 11, 200000));
+        quarrels(made, 1, "off(1, -11, -11)", x -> x.off(1, -11, -11));
+        quarrels(made, 1, "off(1, -200000, -11)", x -> x.off(1, -200000, -11));
+        PictureHeap x = made.heap();
+        Due.taken(x, "off(1, 10, 200000)", x.off(1, 10, 200000), 1);
+        x.untie(1);
+        Due.taken(x, "off(1, -200000, -10)", x.off(1, -200000, -10), 2);
     }
 
     static void promise09WithoutAPicture() {
@@ -392,13 +404,13 @@ public final class BoundsOfTiesTest {
         PictureHeap x = Heaps.onePictureEach(3);
         x.off(1, 199999, 200000);
         Due.taken(x, "ahead(1, 2) up to 200,000", x.ahead(1, 2), 1);
-        dueRange(x, 1, 199999, 199999);
-        dueRange(x, 2, 200000, 200000);
+        Due.range(x, 1, 199999, 199999);
+        Due.range(x, 2, 200000, 200000);
         x = Heaps.onePictureEach(3);
         x.off(1, -200000, -199999);
         Due.taken(x, "ahead(2, 1) down to -200,000", x.ahead(2, 1), 1);
-        dueRange(x, 1, -199999, -199999);
-        dueRange(x, 2, -200000, -200000);
+        Due.range(x, 1, -199999, -199999);
+        Due.range(x, 2, -200000, -200000);
     }
 
     private static PictureHeap oneOff(int offset) {
@@ -413,10 +425,26 @@ public final class BoundsOfTiesTest {
         quarrels(() -> oneOff(-200000), 1, "ahead(2, 1) beyond -200,000", x -> x.ahead(2, 1));
         PictureHeap x = oneOff(200000);
         Due.taken(x, "near(1, 2, 0) at 200,000", x.near(1, 2, 0), 1);
-        dueRange(x, 2, 200000, 200000);
+        Due.range(x, 2, 200000, 200000);
         x = oneOff(-200000);
         Due.taken(x, "near(1, 2, 10000) at -200,000", x.near(1, 2, 10000), 1);
-        dueRange(x, 2, -200000, -190000);
+        Due.range(x, 2, -200000, -190000);
+    }
+
+    static void termsNotBeyondTheBoundsOfEachCamera() {
+        Due.sentence("Terms I", "OFFSETS -200,000 .. 200,000");
+        for (int one = 1; one < 8; one++) {
+            for (int other = 1; other < 8; other++) {
+                for (int bound = -200000; one != other && bound <= 200000; bound += 400000) {
+                    PictureHeap x = Heaps.onePictureEach(8);
+                    x.off(one, bound, bound);
+                    String two = "ahead of " + one + ", off by " + bound + ", and " + other;
+                    Due.due(two, bound > 0 ? x.ahead(one, other) : x.ahead(other, one), NO);
+                    Due.due(two + ", then quarrel()", x.quarrel(), 1);
+                    Due.due(two + ", turned", bound > 0 ? x.ahead(other, one) : x.ahead(one, other), 1);
+                }
+            }
+        }
     }
 
     /** Each of pictures 1 to 7 is told to be ahead of the next, as many ties as said; camera 1 is off by so much. */
@@ -588,7 +616,7 @@ public final class BoundsOfTiesTest {
         quarrels(made, 1, "off(1, 26, 90)", x -> x.off(1, 26, 90));
         PictureHeap x = made.heap();
         Due.taken(x, "off(1, 25, 90)", x.off(1, 25, 90), 3);
-        dueRange(x, 2, 15, 20);
+        Due.range(x, 2, 15, 20);
         Due.Made loose = () -> {
             PictureHeap y = Heaps.onePictureEach(3);
             y.off(2, -200, 20);
@@ -620,19 +648,37 @@ public final class BoundsOfTiesTest {
         quarrels(more, 1, "ahead(3, 0): by 200,000 alone", x -> x.ahead(3, 0));
     }
 
+    static void promise10TiesTakenOutCountNoMore() {
+        Due.sentence("Terms II", "QUARREL: the fewest TIES told (without the new one) with which it can't be");
+        for (int shortCut : new int[] {0, 4, 7}) {
+            PictureHeap x = Heaps.onePictureEach(8);
+            for (int i = 0; i < 8; i++) {
+                int step = i < shortCut ? i : i - 1;
+                Due.due("tie " + i, i == shortCut ? x.ahead(0, 2) : x.ahead(step, step + 1), i);
+            }
+            Due.due("ahead(2, 0), the short cut told", x.ahead(2, 0), NO);
+            Due.due("quarrel()", x.quarrel(), 1);
+            x.untie(shortCut);
+            Due.due("ahead(2, 0), the short cut taken out", x.ahead(2, 0), NO);
+            Due.due("quarrel()", x.quarrel(), 2);
+            Due.due("ahead(7, 0)", x.ahead(7, 0), NO);
+            Due.due("quarrel()", x.quarrel(), 7);
+        }
+    }
+
     static void promise11TakenOut() {
         Due.sentence("Promise 11", "A TIE is taken out: true");
         PictureHeap x = two();
         x.near(0, 1, 10);
         x.off(1, 0, 5);
         x.ahead(0, 1);
-        dueRange(x, 1, 1, 5);
+        Due.range(x, 1, 1, 5);
         Due.taken(x, "untie(1)", x.untie(1));
-        dueRange(x, 1, 1, 10);
+        Due.range(x, 1, 1, 10);
         Due.taken(x, "untie(2)", x.untie(2));
-        dueRange(x, 1, -10, 10);
+        Due.range(x, 1, -10, 10);
         Due.taken(x, "untie(0), the last", x.untie(0));
-        dueRange(x, 1, -200000, 200000);
+        Due.range(x, 1, -200000, 200000);
         Due.due("count(3)", x.count(3), 0);
         Due.due("count(4)", x.count(4), 3);
     }
@@ -645,12 +691,12 @@ public final class BoundsOfTiesTest {
             Due.taken(x, "untie(" + tie + ")", x.untie(tie));
         }
         Due.due("count(3)", x.count(3), 0);
-        dueRange(x, 1, -200000, 200000);
+        Due.range(x, 1, -200000, 200000);
         for (int i = 0; i < 60; i++) {
             Due.due("untie(" + i + ") again", x.untie(i), false);
         }
         Due.taken(x, "off", x.off(1, 3, 3), 60);
-        dueRange(x, 1, 3, 3);
+        Due.range(x, 1, 3, 3);
     }
 
     static void promise11NoneSuch() {

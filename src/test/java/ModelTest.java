@@ -447,7 +447,7 @@ public final class ModelTest {
     }
 
     /** How a run draws its numbers: narrow ones meet and quarrel, wide ones touch the bounds. */
-    private record Style(int cameras, int clocks, int minutes, int offs, int mostTies, int pictures) {
+    private record Style(int cameras, int clocks, int minutes, int offs, int mostTies, int pictures, boolean edges) {
     }
 
     private static final class Run {
@@ -487,6 +487,10 @@ public final class ModelTest {
         }
 
         int upTo(int most) {
+            if (style.edges) {
+                int[] edge = {0, 0, 1, 2, most / 2, most - 1, most, most, most + 1, -1};
+                return edge[r.nextInt(r.nextInt(10) == 0 ? 10 : 8)];
+            }
             return r.nextInt(40) == 0 ? r.nextInt(2) * 200003 - 1 : r.nextInt(most + 1);
         }
 
@@ -639,14 +643,18 @@ public final class ModelTest {
 
     public static void main(String[] args) {
         Style[] styles = {
-            new Style(3, 20, 8, 10, 9, 30),
-            new Style(5, 60, 10, 30, 11, 30),
-            new Style(8, 12, 2, 400, 12, 24),
-            new Style(4, 100000, 10000, 200000, 10, 25),
-            new Style(2, 30, 400000, 199990, 8, 120),
-            new Style(8, 1, 1, 20000, 13, 60),
+            new Style(3, 20, 8, 10, 9, 30, false),
+            new Style(5, 60, 10, 30, 11, 30, false),
+            new Style(8, 12, 2, 400, 12, 24, false),
+            new Style(4, 100000, 10000, 200000, 10, 25, false),
+            new Style(2, 30, 400000, 199990, 8, 120, false),
+            new Style(8, 1, 1, 20000, 13, 60, false),
+            new Style(3, 100000, 10000, 200000, 9, 30, true),
+            new Style(6, 100000, 10000, 200000, 12, 30, true),
+            new Style(4, 10000, 10000, 200000, 10, 30, true),
+            new Style(8, 3, 2, 3, 13, 40, true),
         };
-        for (int run = 0; run < 900 && wrong < 10; run++) {
+        for (int run = 0; run < 1500 && wrong < 10; run++) {
             new Run(run, styles[run % styles.length]).go();
         }
         StringBuilder seen = new StringBuilder();

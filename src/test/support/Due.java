@@ -56,6 +56,11 @@ final class Due {
         due(call, got ? 1 : 0, want ? 1 : 0);
     }
 
+    static void range(PictureHeap x, int camera, int least, int greatest) {
+        due("range(" + camera + ", false)", x.range(camera, false), least);
+        due("range(" + camera + ", true)", x.range(camera, true), greatest);
+    }
+
     /** A call that is not refused: its answer, and trouble 0. */
     static void taken(PictureHeap x, String call, long got, long want) {
         due(call, got, want);

@@ -61,6 +61,13 @@ final class Heaps {
         return x;
     }
 
+    /** The same, with trouble 2. */
+    static PictureHeap someInTrouble() {
+        PictureHeap x = some();
+        x.gap(0);
+        return x;
+    }
+
     /** All room used, nothing put yet: 198 calls. */
     static PictureHeap full() {
         PictureHeap x = cameras(8);
